@@ -28,6 +28,10 @@ public final class OracleTest {
       }
     }
     Random dice = new Random(20261117);
+    // numbers below 1024 are nets of 6 nodes with node 0 alone: one of each class
+    for (int number = 0; number < 1024; number += 3) {
+      askEverything(6, turned(6, number, dice.nextInt(64)), dice.nextInt(1 << 15));
+    }
     for (int k = 0; k < 400; k++) {
       int many = 6 + k % 2;
       askEverything(many, structured(dice, many), structured(dice, many));
@@ -67,6 +71,10 @@ public final class OracleTest {
     int turn = dice.nextInt(3);
     if (turn == 0) number ^= 1 << dice.nextInt(many * (many - 1) / 2);
     return number;
+  }
+
+  private static int turned(int many, int number, int set) {
+    return Model.number(Model.switched(Model.netOf(many, number), set));
   }
 
   private static void askEverything(int many, int number, int second) {
