@@ -49,6 +49,19 @@ final class Nets {
     return to;
   }
 
+  /** Node p gets the number to[p]. */
+  static int renumbered(int many, int number, int... to) {
+    int other = 0;
+    for (int a = 0; a < many; a++) {
+      for (int b = a + 1; b < many; b++) {
+        if (joined(many, number, a, b)) {
+          other |= net(many, "" + to[a] + to[b]);
+        }
+      }
+    }
+    return other;
+  }
+
   static boolean isIn(int set, int node) {
     return (set & 1 << node) != 0;
   }

@@ -18,6 +18,7 @@ public final class KindsTest {
     compareKinds();
     compareRefused();
     kindOfTheClass();
+    kindsOfSixNodes();
     keepers();
     keepersOfTheNet();
     kindRefused();
@@ -136,6 +137,25 @@ public final class KindsTest {
     Run y = Run.with(4, Nets.net(4, "12 13"));
     y.asked(1, "kind", 0, 0);
     Run.with(5, Nets.net(5, RING5)).asked(13, "kind", 0, 0);
+  }
+
+  /** Whichever NET of a CLASS it is, and however its NODES are numbered, it has the same KIND. */
+  private static void kindsOfSixNodes() {
+    Run.sentence("Promise 17", "Of the CLASS of a SLOT: KIND");
+    int[] kinds = {0, 1, 3, 7, 12, 13, 15, 30, 31, 63, 86, 116, 117, 235, 236, 1023};
+    int[][] ways = {
+      {0, 1, 2, 3, 4, 5}, {5, 4, 3, 2, 1, 0}, {1, 2, 3, 4, 5, 0}, {2, 0, 1, 4, 5, 3}, {1, 0, 3, 2, 5, 4},
+      {3, 5, 0, 2, 4, 1}, {4, 3, 5, 1, 0, 2}
+    };
+    for (int kind : kinds) {
+      Run x = Run.with(6);
+      for (int[] to : ways) {
+        for (int set = 0; set < 64; set += 11) {
+          x.call("set", 0, Nets.switched(6, Nets.renumbered(6, kind, to), set));
+          x.due(kind, "kind", 0, 0);
+        }
+      }
+    }
   }
 
   private static void keepers() {

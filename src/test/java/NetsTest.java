@@ -123,11 +123,14 @@ public final class NetsTest {
         int joined = 0;
         for (int a = 0; a < many; a++) {
           for (int b = a + 1; b < many; b++) {
-            x.due(joined, "join", slot, a, b, 0);
+            boolean lowestFirst = (a + b) % 2 == 0;
+            int one = lowestFirst ? a : b;
+            int other = lowestFirst ? b : a;
+            x.due(joined, "join", slot, one, other, 0);
             joined++;
-            x.due(joined, "join", slot, a, b, 1);
-            x.due(joined, "join", slot, b, a, 1);
+            x.due(joined, "join", slot, one, other, 1);
             x.due(1, "pair", slot, a, b, 0);
+            x.due(joined, "join", slot, other, one, 1);
           }
         }
         x.due(Nets.all(many), "of", slot, 0);
@@ -136,9 +139,10 @@ public final class NetsTest {
         for (int a = 0; a < many; a++) {
           for (int b = a + 1; b < many; b++) {
             joined--;
-            x.due(joined, "join", slot, b, a, 0);
-            x.due(joined, "join", slot, a, b, 0);
+            boolean lowestFirst = (a + b) % 2 == 0;
+            x.due(joined, "join", slot, lowestFirst ? a : b, lowestFirst ? b : a, 0);
             x.due(0, "pair", slot, a, b, 0);
+            x.due(joined, "of", slot, 1);
           }
         }
         x.due(0, "of", slot, 0);

@@ -744,6 +744,10 @@ public final class TermsTest {
     x.due(0, "by", 1, 3, 2);
     x.due(1, "by", 1, 4, 0);
     x.due(1, "by", 1, 4, 2);
+    // so it is whichever NODES the rungs join: here each the next one
+    x.call("set", 1, Nets.net(6, "02 24 40 13 35 51 01 23 45"));
+    x.due(4, "by", 1, 3, 0);
+    x.due(0, "by", 1, 3, 2);
   }
 
   private static void strongWhereThereIsNoSuchPair() {
@@ -764,6 +768,10 @@ public final class TermsTest {
     // each DEGREE is 2 in two rings of three, too
     x.due(0, "compare", 0, 2, 2);
     x.due(0, "compare", 2, 0, 2);
+    // if two could get the same number, each three that are not JOINED would come to one of a rung
+    Run z = Run.with(6, Nets.net(6, "03 04 05 13 14 15 23 24 25"), Nets.net(6, "01 12 20 34 45 53 03 14 25"));
+    z.due(0, "compare", 0, 1, 2);
+    z.due(0, "compare", 1, 0, 2);
     Run y = Run.with(3, Nets.net(3, "01"), Nets.net(3, "12"), Nets.net(3, "01 12"));
     y.due(1, "compare", 0, 1, 2);
     y.due(0, "compare", 0, 2, 2);
