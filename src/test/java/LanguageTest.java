@@ -25,8 +25,15 @@ public final class LanguageTest {
     "\\bprotected\\b", "\\bpackage\\b", "\\bstatic\\s*\\{", "\\w+Exact\\b", "\\bthrows\\b",
     "\\bdouble\\b", "\\bfloat\\b", "\\bSystem\\.(?!arraycopy)", "\\bRandom\\b", "\\bThread\\b"
   };
+  /** What rule 4 allows of the library, as far as OddNets could want it without texts and lists. */
+  private static final String[] LIBRARY = {
+    "System.arraycopy", "Arrays.copyOf", "Arrays.copyOfRange", "Arrays.fill", "Integer.bitCount",
+    "Integer.compare", "Long.compare", "Math.abs", "Math.floorDiv", "Math.floorMod", "Math.max", "Math.min"
+  };
   private static final int MOST_LINES = 60;
   private static final int MOST_PARAMETERS = 7;
+  private static final int MOST_CLASSES = 12;
+  private static final int MOST_FIELDS = 20;
 
   private static int wrong = 0;
 
@@ -39,6 +46,7 @@ public final class LanguageTest {
 
   public static void main(String[] args) throws IOException {
     face();
+    fieldRules();
     textRules(Files.readString(Path.of("src/main/java/OddNets.java"), StandardCharsets.UTF_8));
     System.out.println(wrong == 0 ? "the face and the text are as due" : wrong + " things are not as due");
     if (wrong != 0) {
@@ -80,6 +88,26 @@ public final class LanguageTest {
     }
   }
 
+  /** Rule 5, what static fields may be, and rule 11, how many classes and fields there may be. */
+  private static void fieldRules() {
+    due("few classes", inside().length <= MOST_CLASSES, true);
+    for (Class<?> inside : inside()) {
+      int fields = 0;
+      for (Field f : inside.getDeclaredFields()) {
+        if (f.isSynthetic()) continue;
+        if (!Modifier.isStatic(f.getModifiers())) {
+          fields++;
+          continue;
+        }
+        String name = inside.getSimpleName() + "." + f.getName();
+        due(name + " is final", Modifier.isFinal(f.getModifiers()), true);
+        due(name + " has a type for constants", f.getType().getSimpleName()
+            .matches("(int|long|char|byte)(\\[\\])?|boolean|String"), true);
+      }
+      due(inside.getSimpleName() + " has few fields", fields <= MOST_FIELDS, true);
+    }
+  }
+
   private static Class<?>[] inside() {
     Class<?>[] nested = OddNets.class.getDeclaredClasses();
     Class<?>[] all = Arrays.copyOf(nested, nested.length + 1);
@@ -103,7 +131,30 @@ public final class LanguageTest {
     while (imports.find()) {
       due("import", imports.group(1).matches("java\\.util\\.(Arrays|ArrayList|List|Iterator)"), true);
     }
+    onlyTheLibraryAllowed(code);
+    noCallMakesAnObject(code);
     methodsAreShort(source.split("\n"));
+  }
+
+  private static void onlyTheLibraryAllowed(String code) {
+    TreeSet<String> own = new TreeSet<>();
+    for (Class<?> inside : inside()) own.add(inside.getSimpleName());
+    TreeSet<String> allowed = new TreeSet<>(Arrays.asList(LIBRARY));
+    String body = code.replaceAll("import [^;]*;", "");
+    Matcher name = Pattern.compile("\\b([A-Z]\\w*[a-z]\\w*)(\\.\\w+)?").matcher(body);
+    while (name.find()) {
+      due("the library: " + name.group(), own.contains(name.group(1)) || allowed.contains(name.group()), true);
+    }
+  }
+
+  /** All calls of a run live in one room: only fields as they are first, and the constructor, make objects. */
+  private static void noCallMakesAnObject(String code) {
+    String calls = code.replaceAll("(?s)\n    public OddNets\\(\\) \\{.*?\n    \\}", "");
+    for (String line : calls.split("\n")) {
+      boolean makes = line.matches(".*(\\bnew\\b|\\.clone\\b|\\.copyOf|[\"]).*");
+      boolean first = line.matches("( {4}| {8})private final [\\w\\[\\]]+ \\w+ = new [^;]*;");
+      due("made only once: " + line.trim(), makes && !first, false);
+    }
   }
 
   private static void methodsAreShort(String[] lines) {
